@@ -230,7 +230,7 @@ public final class PipelineBelt {
         private final byte[] bytes = new byte[STORE_BYTES];
 
         static int ref(int kind, int place) {
-            return place << KIND_BITS | kind;
+            return (place << KIND_BITS) | kind;
         }
 
         static int kindOf(int ref) {
@@ -268,7 +268,7 @@ public final class PipelineBelt {
             if (place < 0 || place > bytes.length - 4) {
                 return 0;
             }
-            return bytes[place] & 255 | (bytes[place + 1] & 255) << 8
+            return (bytes[place] & 255) | (bytes[place + 1] & 255) << 8
                 | (bytes[place + 2] & 255) << 16 | (bytes[place + 3] & 255) << 24;
         }
 
@@ -279,17 +279,17 @@ public final class PipelineBelt {
             if (kindOf(ref) != WHOLE_64) {
                 return low;
             }
-            return (long) int32(place + 4) << 32 | low & 0xFFFFFFFFL;
+            return ((long) int32(place + 4) << 32) | (low & 0xFFFFFFFFL);
         }
 
         /** The value of the element that begins at a place; its name ends one byte ahead of it. */
         int valueOf(int part) {
-            if (part < 0) {
+            if (part < 0 || part >= bytes.length) {
                 return MISSING;
             }
             for (int i = part + 1; i < bytes.length; i++) {
                 if (bytes[i] == 0) {
-                    return i + 1 << KIND_BITS | bytes[part] & KIND_MASK;
+                    return ((i + 1) << KIND_BITS) | (bytes[part] & KIND_MASK);
                 }
             }
             return MISSING;
@@ -303,7 +303,7 @@ public final class PipelineBelt {
                 if (place > bytes.length - 4) {
                     return place;
                 }
-                int length = bytes[place] & 255 | (bytes[place + 1] & 255) << 8
+                int length = (bytes[place] & 255) | (bytes[place + 1] & 255) << 8
                     | (bytes[place + 2] & 255) << 16 | (bytes[place + 3] & 255) << 24;
                 return kind == TEXT ? place + 4 + length : place + length;
             }
@@ -488,8 +488,8 @@ public final class PipelineBelt {
         }
 
         private static int hashNumber(long number) {
-            int mixed = (int) (number ^ number >>> 32) * 0x2545F491;
-            return mixed ^ mixed >>> 15;
+            int mixed = (int) (number ^ (number >>> 32)) * 0x2545F491;
+            return mixed ^ (mixed >>> 15);
         }
 
         boolean isTooDeep(int nest, int depth) {
@@ -1284,17 +1284,16 @@ public final class PipelineBelt {
             }
             for (int k = 0; k < belts.front.count && k < DOCUMENTS_MOST; k++) {
                 int key = path.value(belts.document(k), 0);
+                nexts[k] = -1;
                 gatherOne(k, key == MISSING ? NOTHING : key);
             }
         }
 
         private void gatherOne(int k, int key) {
-            nexts[k] = -1;
             int hash = store.hash(key, 0);
             for (int g = 0; g < groups; g++) {
                 if (hashes[g] == hash && store.compare(keys[g], key, 0) == 0) {
-                    nexts[lasts[g]] = k;
-                    lasts[g] = k;
+                    join(k, g);
                     return;
                 }
             }
@@ -1305,6 +1304,14 @@ public final class PipelineBelt {
                 lasts[groups] = k;
                 groups++;
             }
+        }
+
+        private void join(int k, int g) {
+            int last = lasts[g];
+            if (last >= 0 && last < DOCUMENTS_MOST) {
+                nexts[last] = k;
+            }
+            lasts[g] = k;
         }
 
         private boolean sumsHold(int plan) {
@@ -1354,7 +1361,7 @@ public final class PipelineBelt {
                 }
             }
             high += low >> 32;
-            sum = high << 32 | low & 0xFFFFFFFFL;
+            sum = (high << 32) | (low & 0xFFFFFFFFL);
             return sum >> 32 == high;
         }
 
@@ -1508,7 +1515,7 @@ public final class PipelineBelt {
         private int keepInOrder() {
             int count = Math.min(belts.front.count, DOCUMENTS_MOST);
             for (int k = 0; k < count; k++) {
-                int place = placeFor(k);
+                int place = Math.min(placeFor(k), k);
                 for (int i = k; i > place; i--) {
                     order[i] = order[i - 1];
                 }
@@ -1538,6 +1545,9 @@ public final class PipelineBelt {
         }
 
         private int compareDocuments(int a, int b) {
+            if (a < 0 || a >= DOCUMENTS_MOST || b < 0 || b >= DOCUMENTS_MOST) {
+                return 0;
+            }
             for (int i = 0; i < sorts; i++) {
                 int difference = store.compare(keys[i][a], keys[i][b], 0);
                 if (difference != 0) {
@@ -1621,7 +1631,7 @@ public final class PipelineBelt {
         }
 
         private static int chainOf(int hash) {
-            return (hash ^ hash >>> 10 ^ hash >>> 20) & CHAINS - 1;
+            return (hash ^ (hash >>> 10) ^ (hash >>> 20)) & (CHAINS - 1);
         }
 
         /** A document's own leaves are the first ones of each chain: of the SAME ones it needs one alone. */
@@ -1629,7 +1639,7 @@ public final class PipelineBelt {
             int hash = store.hash(leaf, 0);
             int chain = chainOf(hash);
             int i = chains[chain];
-            for (int n = 0; n < count && i >= 0 && documents[i] == document; n++) {
+            for (int n = 0; n < count && i >= 0 && i < count && documents[i] == document; n++) {
                 if (hashes[i] == hash && store.compare(leaf, leaves[i], 0) == 0) {
                     return;
                 }
@@ -1662,10 +1672,12 @@ public final class PipelineBelt {
         private void match(int leaf, int owner) {
             int hash = store.hash(leaf, 0);
             int i = chains[chainOf(hash)];
-            for (int n = 0; n < count && i >= 0; n++) {
-                boolean open = hashes[i] == hash && owners[documents[i]] != owner;
+            for (int n = 0; n < count && i >= 0 && i < count; n++) {
+                int document = documents[i];
+                boolean open = hashes[i] == hash && document >= 0 && document < DOCUMENTS_MOST
+                    && owners[document] != owner;
                 if (open && store.compare(leaf, leaves[i], 0) == 0) {
-                    owners[documents[i]] = owner;
+                    owners[document] = owner;
                 }
                 i = nexts[i];
             }
