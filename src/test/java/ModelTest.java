@@ -26,14 +26,9 @@ public final class ModelTest {
             t.run(i);
         }
         System.out.println(t.met);
-        for (String stage : List.of("$project", "$unwind", "$group", "$sort", "$skip", "$limit", "$lookup")) {
-            t.must(stage + " done", 100);
-            t.must(stage + " fault 2", 20);
+        if (args.length == 0) {
+            t.mustHaveMet();
         }
-        for (String s : List.of("$project", "$unwind", "$group", "$sort", "$lookup")) t.must(s + " fault 3", 20);
-        for (String s : List.of("$project", "$unwind", "$group", "$lookup")) t.must(s + " fault 5", 5);
-        t.must("$group fault 4", 20);
-        t.must("put -3", 20);
         System.out.println(t.wrong == 0 ? "all answers are as the model's" : t.wrong + " answers are wrong");
         if (t.wrong != 0) {
             System.exit(1);
@@ -41,6 +36,17 @@ public final class ModelTest {
     }
 
     /** The generator is of no use if it does not come to what it is there for. */
+    private void mustHaveMet() {
+        for (String stage : List.of("$project", "$unwind", "$group", "$sort", "$skip", "$limit", "$lookup")) {
+            must(stage + " done", 100);
+            must(stage + " fault 2", 20);
+        }
+        for (String s : List.of("$project", "$unwind", "$group", "$sort", "$lookup")) must(s + " fault 3", 20);
+        for (String s : List.of("$project", "$unwind", "$group", "$lookup")) must(s + " fault 5", 5);
+        must("$group fault 4", 20);
+        must("put -3", 20);
+    }
+
     private void must(String what, int times) {
         if (met.getOrDefault(what, 0) < times) {
             wrong++;
@@ -128,7 +134,7 @@ public final class ModelTest {
         int got = belt.stage(bytes.length);
         due("stage " + last, got, model.stage(bytes.length));
         String name = d.parts().isEmpty() ? "none" : d.parts().get(0).name();
-        met.merge(name + (got >= 0 ? " done" : " fault " + (got + 10)), 1, Integer::sum);
+        met.merge(name + (got >= 0 ? " done" : got == -1 ? " is no document" : " fault " + (got + 10)), 1, Integer::sum);
         compareBelts();
     }
 

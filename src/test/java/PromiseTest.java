@@ -275,6 +275,8 @@ public final class PromiseTest {
             "{a:{b:{x:1, c:1, y:2}, z:3}, w:4} | {a:{b:{x:1, c:2, y:2}, z:3}, w:4} | {a:{b:{c:5}}}");
         done("{a:[1, 2]}", "{$unwind:\"$a.0\"}", "");
         done("{a:{\"0\":[1, 2]}}", "{$unwind:\"$a.0\"}", "{a:{\"0\":1}} | {a:{\"0\":2}}".replace("\"", ""));
+        done("{a:{b:{c:{d:{e:{f:{g:{h:[8]}, z:9}}}}}}}", "{$unwind:\"$a.b.c.d.e.f.g.h\"}",
+            "{a:{b:{c:{d:{e:{f:{g:{h:8}, z:9}}}}}}}");
         done("{a:[[1, 2], [3]]}", "{$unwind:\"$a\"}", "{a:[1, 2]} | {a:[3]}");
     }
 
@@ -495,6 +497,8 @@ public final class PromiseTest {
         leaf("{a:[10, 20, 30]}", "a.-1", "30", false);
         leaf("{a:[10, 20, 30]}", "a.1x", "20", false);
         leaf("{a:[10, 20, 30]}", "a.1", "null", false);
+        leaf("{a:[0, 1, 2, 3, 4, 5, 6, 7, 8, 9, 10]}", "a.10", "10", true);
+        leaf("{a:[0, 1, 2, 3, 4, 5, 6, 7, 8, 9, 10]}", "a.:", "10", false);
         leaf("{a:[{\"1\":5}, {\"1\":6}]}", "a.1", "5", true);
         leaf("{a:[{\"1\":5}, {\"1\":6}]}", "a.1", "6", true);
         leaf("{a:[{\"1\":5}, {\"1\":6}]}", "a.1", "{\"1\":6}", true);
@@ -644,6 +648,11 @@ public final class PromiseTest {
         }
         due("byteAt of document 2", x.byteAt(0, 2, 0), -1);
         due("byteAt of belt 2", x.byteAt(2, 0, 0), -1);
+        stage(x, "{$limit:1}");
+        due("byteAt of a document that is gone", x.byteAt(0, 1, 0), -1);
+        due("size of a document that is gone", x.size(0, 1), -1);
+        x.clear(1);
+        due("byteAt of a document that is gone", x.byteAt(1, 0, 0), -1);
     }
 
     private static void clear() {
