@@ -1,11 +1,7 @@
-import java.util.ArrayList;
-import java.util.Arrays;
 import java.util.List;
 
 /** Each promise of the document by hand: ordinary inputs, the edges that it names, wrong inputs. */
-public final class PromiseTest {
-    private static int wrong;
-
+public final class PromiseTest extends Bench {
     public static void main(String[] args) {
         newObject();
         feed();
@@ -37,16 +33,13 @@ public final class PromiseTest {
         byteAt();
         clear();
         swap();
-        System.out.println(wrong == 0 ? "all promises hold" : wrong + " answers are wrong");
-        if (wrong != 0) {
-            System.exit(1);
-        }
+        end("all promises hold");
     }
 
     // ---- Promise 1
 
     private static void newObject() {
-        PipelineBelt x = new PipelineBelt();
+        Run x = new Run();
         for (int belt = 0; belt < 2; belt++) {
             due("new: many", x.many(belt, 0), 0);
             due("new: bytes", x.many(belt, 1), 0);
@@ -63,8 +56,8 @@ public final class PromiseTest {
     // ---- Promise 2
 
     private static void feed() {
-        PipelineBelt x = new PipelineBelt();
-        byte[] most = Tree.encode(sized(2000));
+        Run x = new Run();
+        byte[] most = Tree.encode(Tree.doc(sized(2000)));
         for (int i = 0; i < 100; i++) {
             due("feed", feedFrom(x, most, 20 * i), 20 * i + 20);
         }
@@ -74,7 +67,7 @@ public final class PromiseTest {
         dueBytes("it has the bytes that were fed", bytes(x, 0, 0), most);
         due("the tape is empty then", x.feed(1, 2, 3, 4, 5), 20);
 
-        PipelineBelt y = new PipelineBelt();
+        Run y = new Run();
         y.feed(0x14000000, 0x12610001, 0x02030405, 0x86078008, 0xFF000000);
         due("the highest byte first", y.put(0, 20), -1);
         y.feed(0x14000000, 0x02610008, 0x00000041, 0x42434445, 0x46470000);
@@ -85,7 +78,7 @@ public final class PromiseTest {
     // ---- Promise 3
 
     private static void put() {
-        PipelineBelt x = new PipelineBelt();
+        Run x = new Run();
         send(x, Tree.encode(Tree.doc("{a:1}")));
         for (int n : new int[] {-1, 21, 2000, 2001, Integer.MIN_VALUE, Integer.MAX_VALUE}) {
             due("put of " + n, x.put(0, n), -2);
@@ -116,13 +109,13 @@ public final class PromiseTest {
                 "{a:[0, 1, 2, 3, 4, 5, 6, 7, 8, 9, 10, 11]}", "{a:\"\u00c2\u0080\u00df\u00bf\"}",
                 "{a:\"\u00e0\u00a0\u0080\u00ed\u009f\u00bf\u00ee\u0080\u0080\u00ef\u00bf\u00bf\"}",
                 "{a:\"\u00f0\u0090\u0080\u0080\u00f4\u008f\u00bf\u00bf\"}", "{\"\u00f4\u008f\u00bf\u00bf\":1}")) {
-            PipelineBelt x = new PipelineBelt();
+            Run x = new Run();
             byte[] b = Tree.encode(Tree.doc(d));
             send(x, b);
             due("put of " + d, x.put(0, b.length), 1);
             dueBytes("put of " + d, bytes(x, 0, 0), b);
         }
-        PipelineBelt x = new PipelineBelt();
+        Run x = new Run();
         due("16 deep", put(x, 0, nested(16, "{", "a:", "1", "}")), 1);
         due("16 deep with rows", put(x, 0, "{a:" + nested(15, "[", "", "1", "]") + "}"), 2);
     }
@@ -150,15 +143,15 @@ public final class PromiseTest {
                 "e1 80 41", "e1 41 80", "ed a0 80", "ed bf bf", "ef bf", "f0 8f bf bf", "f0 90 80", "f1 80 80 41",
                 "f4 90 80 80", "f5 80 80 80", "f8 88 80 80 80", "ff", "fe", "41 80")) {
             String bytes = Tree.latin(unhex(utf8));
-            due("a text of " + utf8, put(new PipelineBelt(), 0, "{a:\"" + bytes + "\"}"), -1);
-            due("a name of " + utf8, put(new PipelineBelt(), 0, "{\"" + bytes + "\":1}"), -1);
+            due("a text of " + utf8, put(new Run(), 0, "{a:\"" + bytes + "\"}"), -1);
+            due("a name of " + utf8, put(new Run(), 0, "{\"" + bytes + "\":1}"), -1);
         }
-        due("17 deep", put(new PipelineBelt(), 0, nested(17, "{", "a:", "1", "}")), -1);
-        due("17 deep with rows", put(new PipelineBelt(), 0, "{a:" + nested(16, "[", "", "1", "]") + "}"), -1);
+        due("17 deep", put(new Run(), 0, nested(17, "{", "a:", "1", "}")), -1);
+        due("17 deep with rows", put(new Run(), 0, "{a:" + nested(16, "[", "", "1", "]") + "}"), -1);
     }
 
     private static void wrongBytes(String hex) {
-        PipelineBelt x = new PipelineBelt();
+        Run x = new Run();
         byte[] b = unhex(hex);
         send(x, b);
         due("put of " + hex, x.put(0, b.length), -1);
@@ -168,7 +161,7 @@ public final class PromiseTest {
     }
 
     private static void putWithoutRoom() {
-        PipelineBelt x = new PipelineBelt();
+        Run x = new Run();
         for (int i = 1; i <= 200; i++) {
             due("200 documents", put(x, 1, "{a:" + i + "}"), i);
         }
@@ -178,23 +171,23 @@ public final class PromiseTest {
         due("a wrong document and no room", put(x, 1, "{a:\"\u0080\"}"), -1);
         due("the other belt has room", put(x, 0, "{a:1}"), 1);
 
-        PipelineBelt y = new PipelineBelt();
-        for (int i = 1; i <= 19; i++) {
-            due("40,000 bytes", put(y, 0, sized(2000)), i);
-        }
-        due("40,000 bytes", put(y, 0, sized(1995)), 20);
-        due("more than 40,000 bytes", put(y, 0, sized(12)), -3);
-        due("39,995 bytes", y.many(0, 1), 39995);
-        due("40,000 bytes", put(y, 0, "{}"), 21);
+        // 99 documents of 400 bytes.
+        Run y = numbered(99);
+        due("39,600 bytes", stage(y, "{$project:{i:true, t:" + text(380) + "}}"), 99);
+        due("more than 40,000 bytes", put(y, 0, sized(401)), -3);
+        due("39,600 bytes", y.many(0, 1), 39600);
+        due("39,995 bytes", put(y, 0, sized(395)), 100);
+        due("more than 40,000 bytes", put(y, 0, "{a:1}"), -3);
+        due("40,000 bytes", put(y, 0, "{}"), 101);
         due("40,000 bytes", y.many(0, 1), 40000);
         due("more than 40,000 bytes", put(y, 0, "{}"), -3);
-        due("a stage has the same room", stage(y, "{$skip:0}"), 21);
+        due("a stage has the same room", stage(y, "{$skip:0}"), 101);
     }
 
     // ---- Promise 4
 
     private static void stageAnswers() {
-        PipelineBelt x = new PipelineBelt();
+        Run x = new Run();
         put(x, 0, "{a:1}");
         byte[] skip = Tree.encode(Tree.doc("{$skip:1}"));
         send(x, skip);
@@ -415,7 +408,7 @@ public final class PromiseTest {
         done(up.toString(), "{$sort:{a:-1}}", down + "{}");
         for (int i = 0; i < values.size(); i++) {
             for (int j = 0; j < values.size(); j++) {
-                PipelineBelt x = new PipelineBelt();
+                Run x = new Run();
                 put(x, 0, "{v:" + values.get(i) + "}");
                 put(x, 0, "{v:" + values.get(j) + "}");
                 stage(x, "{$group:{by:\"$v\", a:{$min:\"$v\"}, b:{$max:\"$v\"}}}");
@@ -525,13 +518,13 @@ public final class PromiseTest {
     }
 
     private static void leaf(String document, String path, String value, boolean due) {
-        PipelineBelt x = new PipelineBelt();
+        Run x = new Run();
         put(x, 0, "{k:" + value + "}");
         put(x, 1, document);
-        stage(x, "{$lookup:{here:\"k\", there:\"" + path + "\", as:\"o\"}}");
+        due("lookup", stage(x, "{$lookup:{here:\"k\", there:\"" + path + "\", as:\"o\"}}"), 1);
         due("leaf " + value + " of " + path + " at " + document, !show(x, 0).endsWith("o:[]}"), due);
         x.swap();
-        stage(x, "{$lookup:{here:\"" + path + "\", there:\"k\", as:\"o\"}}");
+        due("lookup", stage(x, "{$lookup:{here:\"" + path + "\", there:\"k\", as:\"o\"}}"), 1);
         due("leaf " + value + " of " + path + " here at " + document, !show(x, 0).endsWith("o:[]}"), due);
     }
 
@@ -552,7 +545,7 @@ public final class PromiseTest {
 
     private static void roomFaults() {
         // More than 200 documents.
-        PipelineBelt x = new PipelineBelt();
+        Run x = new Run();
         for (int i = 0; i < 20; i++) {
             put(x, 0, "{i:" + i + ", a:[0, 1, 2, 3, 4, 5, 6, 7, 8, 9]}");
         }
@@ -570,7 +563,7 @@ public final class PromiseTest {
             "{b:" + half + ", c:\"" + "y".repeat(1019) + "\"}");
         fault(5, "{a:" + half + "}", "{$project:{b:\"$a\", c:\"" + "y".repeat(1020) + "\"}}");
         fault(5, "{i:1} | {a:" + half + "}", "{$project:{b:\"$a\", c:\"" + "y".repeat(1020) + "\"}}");
-        PipelineBelt y = new PipelineBelt();
+        Run y = new Run();
         put(y, 0, "{a:\"" + "x".repeat(1949) + "\"}");
         put(y, 1, "{}");
         due("2,000 bytes by a row", stage(y, "{$lookup:{here:\"b\", there:\"b\", as:\"row12345678901234567890\"}}"), 1);
@@ -579,7 +572,7 @@ public final class PromiseTest {
         due("belt 0 stays", y.size(0, 0), 2000);
 
         // All of them more than 40,000 bytes: 100 documents of 400 bytes.
-        PipelineBelt z = new PipelineBelt();
+        Run z = new Run();
         for (int i = 0; i < 100; i++) {
             put(z, 0, "{a:" + i + "}");
         }
@@ -593,7 +586,7 @@ public final class PromiseTest {
         // More than 16 deep.
         String deep14 = nested(14, "{", "a:", "1", "}");
         String deep15 = nested(15, "{", "a:", "1", "}");
-        PipelineBelt d = new PipelineBelt();
+        Run d = new Run();
         put(d, 0, "{k:1}");
         put(d, 1, deep14);
         due("16 deep by a row", stage(d, "{$lookup:{here:\"x\", there:\"x\", as:\"o\"}}"), 1);
@@ -611,7 +604,7 @@ public final class PromiseTest {
     // ---- Promises 5 to 9
 
     private static void many() {
-        PipelineBelt x = twoBelts();
+        Run x = twoBelts();
         due("many", x.many(0, 0), 2);
         due("many", x.many(0, 1), 24);
         due("many", x.many(1, 0), 1);
@@ -623,7 +616,7 @@ public final class PromiseTest {
     }
 
     private static void size() {
-        PipelineBelt x = twoBelts();
+        Run x = twoBelts();
         due("size", x.size(0, 0), 12);
         due("size", x.size(0, 1), 12);
         due("size", x.size(1, 0), 16);
@@ -635,7 +628,7 @@ public final class PromiseTest {
     }
 
     private static void byteAt() {
-        PipelineBelt x = twoBelts();
+        Run x = twoBelts();
         dueBytes("byteAt", bytes(x, 0, 1), Tree.encode(Tree.doc("{b:-2}")));
         dueBytes("byteAt", bytes(x, 1, 0), Tree.encode(Tree.doc("{c:3L}")));
         due("byteAt, without a sign", x.byteAt(0, 1, 8), 255);
@@ -656,7 +649,7 @@ public final class PromiseTest {
     }
 
     private static void clear() {
-        PipelineBelt x = twoBelts();
+        Run x = twoBelts();
         for (int no : new int[] {-1, 2, Integer.MIN_VALUE, Integer.MAX_VALUE}) {
             due("clear of belt " + no, x.clear(no), -1);
         }
@@ -673,7 +666,7 @@ public final class PromiseTest {
     }
 
     private static void swap() {
-        PipelineBelt x = twoBelts();
+        Run x = twoBelts();
         send(x, Tree.encode(Tree.doc("{}")));
         x.swap();
         due("swap", show(x, 0), "{c:3L}");
@@ -686,123 +679,11 @@ public final class PromiseTest {
         due("swap again", show(x, 1), "");
     }
 
-    private static PipelineBelt twoBelts() {
-        PipelineBelt x = new PipelineBelt();
+    private static Run twoBelts() {
+        Run x = new Run();
         put(x, 0, "{a:1}");
         put(x, 0, "{b:-2}");
         put(x, 1, "{c:3L}");
         return x;
-    }
-
-    // ---- helpers
-
-    private static void due(String what, Object got, Object want) {
-        if (!got.equals(want)) {
-            wrong++;
-            System.out.println(shortened(what) + ": answered " + shortened(got) + ", due is " + shortened(want));
-        }
-    }
-
-    private static String shortened(Object o) {
-        String text = o.toString();
-        return text.length() > 300 ? text.substring(0, 300) + ".." : text;
-    }
-
-    private static void dueBytes(String what, byte[] got, byte[] want) {
-        due(what, Arrays.toString(got), Arrays.toString(want));
-    }
-
-    private static void done(String belt0, String stage, String due) {
-        found(belt0, "", stage, due);
-    }
-
-    private static void found(String belt0, String belt1, String stage, String due) {
-        PipelineBelt x = new PipelineBelt();
-        putAll(x, 0, belt0);
-        putAll(x, 1, belt1);
-        int answer = stage(x, stage);
-        due(stage + " of " + belt0, show(x, 0), due);
-        due(stage + " of " + belt0, answer, x.many(0, 0));
-        due("belt 1 stays", show(x, 1), belt1);
-    }
-
-    private static void fault(int number, String belt0, String stage) {
-        PipelineBelt x = new PipelineBelt();
-        putAll(x, 0, belt0);
-        due(stage, stage(x, stage), number - 10);
-        due("belt 0 stays: " + stage, show(x, 0), belt0);
-    }
-
-    private static void putAll(PipelineBelt x, int belt, String documents) {
-        if (!documents.isEmpty()) {
-            for (String d : documents.split(" \\| ")) {
-                due("put of " + d, put(x, belt, d) > 0, true);
-            }
-        }
-    }
-
-    private static int put(PipelineBelt x, int belt, String document) {
-        return put(x, belt, Tree.doc(document));
-    }
-
-    private static int put(PipelineBelt x, int belt, Tree.Doc document) {
-        byte[] b = Tree.encode(document);
-        send(x, b);
-        return x.put(belt, b.length);
-    }
-
-    private static int stage(PipelineBelt x, String document) {
-        byte[] b = Tree.encode(Tree.doc(document));
-        send(x, b);
-        return x.stage(b.length);
-    }
-
-    private static void send(PipelineBelt x, byte[] bytes) {
-        for (int i = 0; i < bytes.length; i += 20) {
-            feedFrom(x, bytes, i);
-        }
-    }
-
-    private static int feedFrom(PipelineBelt x, byte[] bytes, int from) {
-        int[] n = new int[5];
-        for (int i = 0; i < 20; i++) {
-            n[i / 4] = n[i / 4] << 8 | (from + i < bytes.length ? bytes[from + i] & 255 : 0);
-        }
-        return x.feed(n[0], n[1], n[2], n[3], n[4]);
-    }
-
-    private static byte[] bytes(PipelineBelt x, int belt, int k) {
-        byte[] b = new byte[Math.max(x.size(belt, k), 0)];
-        for (int i = 0; i < b.length; i++) {
-            b[i] = (byte) x.byteAt(belt, k, i);
-        }
-        return b;
-    }
-
-    private static String show(PipelineBelt x, int belt) {
-        List<String> shown = new ArrayList<>();
-        for (int k = 0; k < x.many(belt, 0); k++) {
-            Tree.Doc d = Tree.decode(bytes(x, belt, k));
-            shown.add(d == null ? "no document" : Tree.show(d));
-        }
-        return String.join(" | ", shown);
-    }
-
-    /** A document of so many bytes. */
-    private static Tree.Doc sized(int bytes) {
-        return bytes == 12 ? Tree.doc("{a:1}") : Tree.doc("{a:\"" + "x".repeat(bytes - 13) + "\"}");
-    }
-
-    private static String nested(int depth, String open, String name, String inmost, String close) {
-        return (open + name).repeat(depth) + inmost + close.repeat(depth);
-    }
-
-    private static byte[] unhex(String hex) {
-        String h = hex.replace(" ", "");
-        byte[] b = new byte[h.length() / 2];
-        for (int i = 0; i < b.length; i++) {
-            b[i] = (byte) Integer.parseInt(h.substring(2 * i, 2 * i + 2), 16);
-        }
-        return b;
     }
 }

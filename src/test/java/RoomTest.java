@@ -16,22 +16,35 @@ public final class RoomTest {
     /** What the machine itself may make beside the calls (loading a class, say). */
     private static final long BYTES_MOST = 4096;
 
+    private static int calls;
+
     public static void main(String[] args) throws IllegalAccessException {
         boolean right = isSmall(new PipelineBelt());
-        PipelineBelt x = new PipelineBelt();
         int[][] stages = stages();
-        round(x, stages);
         ThreadMXBean threads = (ThreadMXBean) ManagementFactory.getThreadMXBean();
+        // The machine makes its own things the first time.
         long before = threads.getCurrentThreadAllocatedBytes();
-        for (int i = 0; i < 20; i++) {
-            round(x, stages);
-        }
+        allCalls(new PipelineBelt(), stages);
+        PipelineBelt x = new PipelineBelt();
+        before = threads.getCurrentThreadAllocatedBytes();
+        allCalls(x, stages);
         long made = threads.getCurrentThreadAllocatedBytes() - before;
-        System.out.println("20 rounds of calls make " + made + " bytes");
+        System.out.println(calls + " calls make " + made + " bytes");
         right &= made <= BYTES_MOST;
         if (!right) {
             System.out.println("that is too much");
             System.exit(1);
+        }
+    }
+
+    /** As many rounds as the calls of one object go. */
+    private static void allCalls(PipelineBelt x, int[][] stages) {
+        calls = 0;
+        int each = 0;
+        while (calls + each <= Run.CALLS_MOST) {
+            int before = calls;
+            round(x, stages);
+            each = calls - before;
         }
     }
 
@@ -97,15 +110,19 @@ public final class RoomTest {
         for (int i = 1; i < stages.length; i++) {
             x.stage(feed(x, stages[i]));
         }
+        x.many(0, 1);
+        x.size(0, 0);
         x.byteAt(0, 0, 0);
         x.swap();
         x.clear(0);
         x.clear(1);
+        calls += 8 + stages.length - 1 + 6;
     }
 
     private static int feed(PipelineBelt x, int[] n) {
         for (int i = 1; i + 4 < n.length; i += 5) {
             x.feed(n[i], n[i + 1], n[i + 2], n[i + 3], n[i + 4]);
+            calls++;
         }
         return n[0];
     }
