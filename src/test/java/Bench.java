@@ -168,6 +168,15 @@ abstract class Bench {
         return "[" + String.join(", ", items) + "]";
     }
 
+    /** Elements n0:null, n1:null, .. with a comma between two of them. */
+    static String elements(int count) {
+        List<String> parts = new ArrayList<>();
+        for (int i = 0; i < count; i++) {
+            parts.add("n" + i + ":null");
+        }
+        return String.join(", ", parts);
+    }
+
     static String text(int length) {
         return '"' + "x".repeat(length) + '"';
     }

@@ -575,6 +575,16 @@ public final class DocumentBoundaryTest extends Bench {
         refused("the last as the first", document(many));
         many[119] = many[118];
         refused("the last as the one ahead of it", document(many));
+        byte[][] most = new byte[320][];
+        for (int i = 0; i < most.length; i++) {
+            most[i] = element(10, "n" + i, new byte[0]);
+        }
+        taken("320 names", document(most));
+        for (int as : new int[] {0, 3, 4, 7, 8, 15, 16, 199, 200, 255, 256, 318}) {
+            byte[][] twice = most.clone();
+            twice[319] = most[as];
+            refused("the last as number " + as, document(twice));
+        }
     }
 
     private static byte[] twoNamed(String a, String b) {

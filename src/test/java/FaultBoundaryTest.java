@@ -293,6 +293,13 @@ public final class FaultBoundaryTest extends Bench {
             fault(5, "{a:" + deep(14) + "} | {a:" + deep(15) + "} | {a:1}", plan);
             fault(5, "{k:1, a:1} | {k:2, a:" + deep(15) + "}", plan.replace("by:1", "by:\"$k\""));
             fault(5, "{k:2, a:" + deep(15) + "} | {k:1, a:1}", plan.replace("by:1", "by:\"$k\""));
+            // Wherever it lies in them.
+            for (int count : new int[] {3, 4, 8, 16, 200, 250}) {
+                String siblings = elements(count);
+                done("{a:{" + siblings + ", z:" + deep(13) + "}}", plan, "{by:1, p:[{" + siblings + ", z:" + deep(13) + "}]}");
+                fault(5, "{a:{" + siblings + ", z:" + deep(14) + "}}", plan);
+                fault(5, "{a:{z:" + deep(14) + ", " + siblings + "}}", plan);
+            }
         }
     }
 
@@ -316,7 +323,8 @@ public final class FaultBoundaryTest extends Bench {
         done("{a:" + deep(15) + "}", "{$project:{a:true}}", "{a:" + deep(15) + "}");
         done("{a:" + deep(15) + "}", "{$project:{b:\"$a\", c:\"$a.a\"}}", "{b:" + deep(15) + ", c:" + deep(14) + "}");
         for (String work : new String[] {"$min", "$max", "$first", "$last"}) {
-            done("{a:" + deep(15) + "}", "{$group:{by:\"$a\", p:{" + work + ":\"$a\"}}}", "{by:" + deep(15) + ", p:" + deep(15) + "}");
+            done("{a:" + deep(15) + "}", "{$group:{by:\"$a\", p:{" + work + ":\"$a\"}}}",
+                "{by:" + deep(15) + ", p:" + deep(15) + "}");
         }
         done("{a:" + deepRow(15) + "}", "{$unwind:\"$a\"}", "{a:" + deepRow(14) + "}");
         done("{a:" + deep(15) + "}", "{$unwind:\"$a\"}", "{a:" + deep(15) + "}");
@@ -455,6 +463,27 @@ public final class FaultBoundaryTest extends Bench {
             due(stage, stage(x, stage), 200);
             due(stage, x.many(0, 1), 40000);
         }
+        // Both belts full, each with what it had: a stage on one is nothing to the other.
+        Run y = numbered(200);
+        stage(y, "{$project:{i:true, b:true, t:" + text(173) + "}}");
+        String belt0 = show(y, 0);
+        y.swap();
+        put(y, 0, "{i:" + numbers(10) + ", b:" + numbers(20) + "}");
+        stage(y, "{$unwind:\"$b\"}");
+        stage(y, "{$unwind:\"$i\"}");
+        stage(y, "{$project:{i:true, b:true, u:" + text(173).replace('x', 'u') + "}}");
+        due("40,000 bytes each", y.many(0, 1) + y.many(1, 1), 80000);
+        due("belt 1 stays", show(y, 1), belt0);
+        for (int i = 0; i < 4; i++) {
+            due("sort", stage(y, "{$sort:{i:" + (i % 2 * 2 - 1) + "}}"), 200);
+            due("belt 1 stays", show(y, 1), belt0);
+            due("40,000 bytes", y.many(0, 1), 40000);
+        }
+        String other = show(y, 0);
+        y.swap();
+        due("sort", stage(y, "{$sort:{i:1, b:1}}"), 200);
+        due("belt 1 stays", show(y, 1), other);
+        due("belt 0", show(y, 0), belt0);
     }
 
     private static void belt0StaysAfterEach() {

@@ -18,6 +18,7 @@ public final class OrderBoundaryTest extends Bench {
         truths();
         sameDocumentsAndRows();
         deepOnes();
+        longOnes();
         end("each boundary of ORDER holds");
     }
 
@@ -56,6 +57,12 @@ public final class OrderBoundaryTest extends Bench {
             done(docs, "{$group:{by:1, x:{$min:\"$v\"}, y:{$max:\"$v\"}}}", "{by:1, x:" + one + ", y:" + one + "}");
             done(docs, "{$group:{by:1, x:{$addToSet:\"$v\"}}}", "{by:1, x:[" + one + "]}");
             due(one + " found as " + other, found(one, other), true);
+            // What lies around them is nothing to them.
+            done("{i:1, v:" + one + "} | {v:" + other + ", w:7, x:[{}]}", "{$group:{by:\"$v\", n:{$count:null}}}",
+                "{by:" + one + ", n:2L}");
+            Run x = with("{i:1, v:" + one + "}", "{v:" + other + ", w:7, x:[{}]}");
+            due("lookup", stage(x, "{$lookup:{here:\"v\", there:\"v\", as:\"o\"}}"), 1);
+            due(one + " found as " + other + " among others", show(x, 0).endsWith("o:[{v:" + other + ", w:7, x:[{}]}]}"), true);
         }
     }
 
@@ -252,6 +259,32 @@ public final class OrderBoundaryTest extends Bench {
             done(one + " | " + two + " | " + alsoTwo, "{$group:{by:\"$v\", n:{$count:null}}}",
                 one.replace("{v:", "{by:").replaceFirst("}$", ", n:1L}") + " | "
                 + two.replace("{v:", "{by:").replaceFirst("}$", ", n:2L}"));
+        }
+    }
+
+    private static void longOnes() {
+        says("documents element by element; rows item by item; one that ends first is less");
+        // Different in the last element or item alone, or by having one more.
+        for (int count : new int[] {5, 9, 17, 100, 250}) {
+            String nulls = "null, ".repeat(count);
+            String parts = elements(count) + ", ";
+            String[][] pairs = {{"{v:[" + nulls + "1]}", "{v:[" + nulls + "2]}"},
+                {"{v:[" + nulls + "null]}", "{v:[" + nulls + "null, null]}"},
+                {"{v:{" + parts + "z:1}}", "{v:{" + parts + "z:2}}"},
+                {"{v:{" + parts + "y:2}}", "{v:{" + parts + "z:1}}"},
+                {"{v:{" + parts + "z:null}}", "{v:{" + parts + "z:null, zz:null}}"}};
+            for (String[] pair : pairs) {
+                done(pair[1] + " | " + pair[0], "{$sort:{v:-1}}", pair[1] + " | " + pair[0]);
+                done(pair[0] + " | " + pair[1], "{$sort:{v:-1}}", pair[1] + " | " + pair[0]);
+                Run x = with(pair[0] + " | " + pair[1] + " | " + pair[0], "");
+                due("two keys", stage(x, "{$group:{by:\"$v\", n:{$count:null}}}"), 2);
+                // A document with both of the longest ones would have too many bytes.
+                if (count <= 100) {
+                    due("found", found(pair[0], pair[0]), true);
+                    due("not found", found(pair[0], pair[1]), false);
+                    due("not found", found(pair[1], pair[0]), false);
+                }
+            }
         }
     }
 }

@@ -5,6 +5,8 @@ import java.util.List;
 /** PATHS, their LEAVES and VALUES, and EXPRESSIONS: each sentence that names a boundary, on both sides of it. */
 public final class PathBoundaryTest extends Bench {
     private static final String EIGHT = "a.b.c.d.e.f.g.h";
+    /** The bytes of b:null and 0:5, as a text. */
+    private static final String LIKE_AN_ELEMENT = "\"\nb\0\0200\0\5\0\0\0\"";
     private static final String[] WORKS = {"$sum", "$min", "$max", "$first", "$last", "$push", "$addToSet"};
 
     public static void main(String[] args) {
@@ -20,6 +22,9 @@ public final class PathBoundaryTest extends Bench {
         leavesAtRowsByOtherDigits();
         leavesAtLongRows();
         leavesAtDocumentsOfRows();
+        leavesMetOften();
+        asManyAsADocumentHolds();
+        leavesOfOneDocumentAlone();
         noLeafAtAll();
         leavesAtOtherValues();
         withItems();
@@ -306,6 +311,73 @@ public final class PathBoundaryTest extends Bench {
         sorted("{a:[{b:[4, 5]}, {b:[6]}]}", "a.b.1", "5", "5");
     }
 
+    private static void leavesMetOften() {
+        says("Leaves come in the order in which they are met; one value may be met more than once.");
+        // A row of 120 items that is met ten times, and behind it all a leaf that is met once.
+        String row = "[" + "3, ".repeat(119) + "3]";
+        String often = "[{0:[{0:[{0:[{0:[{0:" + row + "}]}]}]}]}";
+        String once = nested(7, "{", "0:", "true", "}");
+        String document = "{0:" + often + ", " + once + "]}";
+        String path = "0.0.0.0.0.0.0.0";
+        sameKey(document, path, "-1", "true");
+        Run x = with("{k:true} | {k:3} | {k:4} | {k:false}", document);
+        due("lookup", stage(x, "{$lookup:{here:\"k\", there:\"" + path + "\", as:\"o\"}}"), 4);
+        due("the leaf that is met last", x.size(0, 0) > 1000, true);
+        due("the leaf that is met often", x.size(0, 1) > 1000, true);
+        due("no leaf", x.size(0, 2), 20);
+        due("no leaf", x.size(0, 3), 17);
+    }
+
+    private static void asManyAsADocumentHolds() {
+        says("At a document a step takes the element of that name .. it goes on at each item .. its items");
+        for (int count : new int[] {4, 5, 8, 9, 16, 17, 100, 199, 200, 201, 300}) {
+            // The element behind so many others.
+            String parts = elements(count);
+            String document = "{" + parts + ", a:5}";
+            done(document, "{$project:{a:true}}", "{a:5}");
+            done(document, "{$project:{v:\"$a\"}}", "{v:5}");
+            done("{x:{" + parts + ", a:[5]}}", "{$project:{v:\"$x.a\"}}", "{v:[5]}");
+            sorted(document, "a", "5", "5");
+            sorted(document, "b", null, null);
+            done("{" + parts + ", a:[5]}", "{$unwind:\"$a\"}", "{" + parts + ", a:5}");
+            // The item behind so many others.
+            String row = "[" + "null, ".repeat(count) + "{b:5}]";
+            done("{a:" + row + "}", "{$project:{v:\"$a.b\"}}", "{v:[5]}");
+            sorted("{a:" + row + "}", "a.b", "5", "5");
+            sorted("{a:" + row + "}", "a." + count + ".b", null, "5");
+            sorted("{a:[" + "0, ".repeat(count > 200 ? 150 : count) + "true]}", "a", "0", "true");
+            sorted("{a:[" + "null, ".repeat(count) + "true]}", "a", "null", "true");
+            Run x = with("{k:true} | {k:5}", "{a:[" + "null, ".repeat(count) + "true]}");
+            due("lookup", stage(x, "{$lookup:{here:\"k\", there:\"a\", as:\"o\"}}"), 2);
+            due("the last item", x.size(0, 0) > 30, true);
+            due("no item", x.size(0, 1), 20);
+            if (count < 150) {
+                sorted("{a:[" + "{}, ".repeat(count) + "{b:5}]}", "a.b", null, "5");
+                sorted("{a:[" + "{b:0}, ".repeat(Math.min(count, 100)) + "{b:5}]}", "a.b", "0", "5");
+            }
+        }
+    }
+
+    private static void leavesOfOneDocumentAlone() {
+        says("The LEAVES of a path at a value");
+        // What one document's leaves are is nothing to the next one: MISSING, in a row beside another leaf.
+        done("{} | {a:{b:null}} | {a:[{b:1}, {}]} | {a:[{}, {b:1}], i:1}", "{$sort:{\"a.b\":1}}",
+            "{} | {a:[{b:1}, {}]} | {a:[{}, {b:1}], i:1} | {a:{b:null}}");
+        done("{a:[{b:1}, {}]} | {a:{b:null}} | {} | {a:[{}, {b:1}], i:1}", "{$sort:{\"a.b\":1}}",
+            "{a:[{b:1}, {}]} | {} | {a:[{}, {b:1}], i:1} | {a:{b:null}}");
+        found("{} | {a:[{b:1}, {}]} | {a:{b:1}}", "{k:null} | {k:1}", "{$lookup:{here:\"a.b\", there:\"k\", as:\"o\"}}",
+            "{o:[{k:null}]} | {a:[{b:1}, {}], o:[{k:null}, {k:1}]} | {a:{b:1}, o:[{k:1}]}");
+        found("{k:null} | {k:1}", "{} | {a:[{b:1}, {}]} | {a:{b:1}} | {a:[{b:1}, {}]}",
+            "{$lookup:{here:\"k\", there:\"a.b\", as:\"o\"}}",
+            "{k:null, o:[{}, {a:[{b:1}, {}]}, {a:[{b:1}, {}]}]} | {k:1, o:[{a:[{b:1}, {}]}, {a:{b:1}}, {a:[{b:1}, {}]}]}");
+        // Nor is what lies behind a document an element of it: here a size of 12, which is the name \f, too.
+        done("{a:1} | {b:2} | {c:3}", "{$project:{v:\"$\f\"}}", "{} | {} | {}");
+        done("{a:1} | {b:2} | {c:3}", "{$sort:{\"\f\":-1}}", "{a:1} | {b:2} | {c:3}");
+        done("{a:1} | {b:2} | {c:3}", "{$unwind:\"$\f\"}", "");
+        done("{a:{x:1}, b:{c:2}}", "{$project:{v:\"$a.\3b\"}}", "{}");
+        done("{a:[1], b:{c:2}}", "{$project:{v:\"$a.\3b\", w:\"$a.c\"}}", "{v:[], w:[]}");
+    }
+
     private static void noLeafAtAll() {
         says("(So at a row there may be no leaf at all.)");
         for (String row : new String[] {"[]", "[1]", "[1, 2]", "[[]]", "[[{b:1}]]", "[null]", "[\"b\"]", "[true]"}) {
@@ -329,6 +401,9 @@ public final class PathBoundaryTest extends Bench {
             sorted("{a:[" + v + ", {b:6}]}", "a.0.b", null, null);
             sorted("{a:[{b:" + v + "}, {b:{c:6}}]}", "a.b.c", null, "6");
         }
+        // A text whose bytes would be elements of a document.
+        sorted("{a:" + LIKE_AN_ELEMENT + "}", "a.b", null, null);
+        sorted("{a:" + LIKE_AN_ELEMENT + "}", "a.0", null, null);
     }
 
     private static void withItems() {
@@ -366,6 +441,13 @@ public final class PathBoundaryTest extends Bench {
 
     private static void expression(String document, String e, String due) {
         String orNothing = due == null ? "null" : due;
+        // Among others, of which it must not take anything: elements ahead and behind, documents ahead and behind.
+        String other = "{z:[{a:{b:1}}, {b:{c:2}}]}";
+        String inner = document.substring(1, document.length() - 1);
+        String among = "{z:{a:1, b:{c:2}}, " + inner + (inner.isEmpty() ? "" : ", ") + "zz:[{a:1}, {b:{c:2}}]}";
+        String asked = "{$project:{v:" + e + "}}";
+        due(asked + " among others of " + document, shown(with(other + " | " + among + " | " + other, other), asked, 1),
+            due == null ? "{}" : "{v:" + due + "}");
         done(document, "{$project:{v:" + e + "}}", due == null ? "{}" : "{v:" + due + "}");
         done(document, "{$group:{by:" + e + "}}", "{by:" + orNothing + "}");
         for (String work : new String[] {"$min", "$max", "$first", "$last"}) {
@@ -374,6 +456,11 @@ public final class PathBoundaryTest extends Bench {
         for (String work : new String[] {"$push", "$addToSet"}) {
             done(document, "{$group:{by:1, v:{" + work + ":" + e + "}}}", "{by:1, v:[" + (due == null ? "" : due) + "]}");
         }
+    }
+
+    private static String shown(Run x, String stage, int k) {
+        stage(x, stage);
+        return Tree.show(Tree.decode(bytes(x, 0, k)));
     }
 
     private static void expressions() {
@@ -451,5 +538,11 @@ public final class PathBoundaryTest extends Bench {
             value("{a:{b:" + v + "}}", "a.b.c", null);
             value("{a:[{b:" + v + "}]}", "a.b.c", "[]");
         }
+        // A text whose bytes would be elements of a document.
+        value("{a:" + LIKE_AN_ELEMENT + "}", "a.b", null);
+        value("{a:{b:" + LIKE_AN_ELEMENT + "}}", "a.b.b", null);
+        value("{a:[" + LIKE_AN_ELEMENT + "]}", "a.b", "[]");
+        done("{a:" + LIKE_AN_ELEMENT + "}", "{$unwind:\"$a.b\"}", "");
+        done("{a:" + LIKE_AN_ELEMENT + "}", "{$unwind:\"$a\"}", "{a:" + LIKE_AN_ELEMENT + "}");
     }
 }

@@ -4,7 +4,8 @@ import java.util.List;
 /** The stages: what each asks of its value and what it does, on both sides of every boundary that is named. */
 public final class StageBoundaryTest extends Bench {
     /** A value of each kind. */
-    private static final String[] KINDS = {"null", "0", "1", "1L", "\"\"", "\"a\"", "\"$a\"", "{}", "{a:1}", "[]", "[1]", "true", "false"};
+    private static final String[] KINDS = {"null", "0", "1", "1L", "\"\"", "\"a\"", "\"$a\"", "{}", "{a:1}", "[]", "[1]",
+        "true", "false"};
     private static final String LEAST = "-9223372036854775808L";
     private static final String MOST = "9223372036854775807L";
 
@@ -24,6 +25,7 @@ public final class StageBoundaryTest extends Bench {
         groupElements();
         groupKeys();
         groupOrder();
+        groupsAreApart();
         groupOthers();
         groupCount();
         groupSums();
@@ -42,6 +44,7 @@ public final class StageBoundaryTest extends Bench {
         lookupPlace();
         lookupFound();
         lookupNothing();
+        lookupEachLeaf();
         lookupMany();
         end("each boundary of the stages holds");
     }
@@ -96,6 +99,12 @@ public final class StageBoundaryTest extends Bench {
         }
         String many = String.join(", ", all);
         done("{a:5}", "{$project:{" + many + "}}", "{" + many + "}");
+        for (int count : new int[] {4, 5, 8, 9, 16, 17, 199, 200, 201, 300}) {
+            String parts = elements(count);
+            done("{a:5}", "{$project:{" + parts + ", a:true}}", "{" + parts + ", a:5}");
+            fault(2, "{a:5}", "{$project:{" + parts + ", $a:true}}");
+            fault(3, "{a:5}", "{$project:{" + parts + ", a:\"$\"}}");
+        }
     }
 
     private static void plainNames() {
@@ -139,7 +148,8 @@ public final class StageBoundaryTest extends Bench {
 
     private static void projectMissing() {
         says("What is MISSING is left out.");
-        done("{a:1} | {b:2} | {} | {a:null}", "{$project:{x:\"$a\", y:\"$b\", a:true}}", "{x:1, a:1} | {y:2} | {} | {x:null, a:null}");
+        done("{a:1} | {b:2} | {} | {a:null}", "{$project:{x:\"$a\", y:\"$b\", a:true}}",
+            "{x:1, a:1} | {y:2} | {} | {x:null, a:null}");
         done("{a:1}", "{$project:{x:\"$b\"}}", "{}");
         done("{a:[1]}", "{$project:{x:\"$a.b\"}}", "{x:[]}");
     }
@@ -281,6 +291,42 @@ public final class StageBoundaryTest extends Bench {
         due("the last one's count", y.byteAt(0, 199, 15), 1);
     }
 
+    /** What one group, one element or one stage has worked out is nothing to the next one. */
+    private static void groupsAreApart() {
+        says("Documents with the SAME key are a group .. over its values that are not MISSING, in order");
+        String plan = "{$group:{by:\"$k\", n:{$count:null}, s:{$sum:\"$a\"}, l:{$min:\"$a\"}, g:{$max:\"$a\"}, f:{$first:\"$a\"}, "
+            + "z:{$last:\"$a\"}, p:{$push:\"$a\"}, t:{$addToSet:\"$a\"}}}";
+        String first = "{by:1, n:3L, s:-14L, l:-19, g:8, f:-3, z:8, p:[-3, -19, 8], t:[-3, -19, 8]}";
+        String second = "{by:2, n:2L, s:9L, l:4, g:5, f:5, z:4, p:[5, 4], t:[5, 4]}";
+        String third = "{by:3, n:1L, s:7L, l:7, g:7, f:7, z:7, p:[7], t:[7]}";
+        String docs = "{k:1, a:-3} | {k:2, a:5} | {k:1, a:-19} | {k:3, a:7} | {k:2, a:4} | {k:1, a:8}";
+        done(docs, plan, first + " | " + second + " | " + third);
+        done("{k:3, a:7} | {k:2, a:5} | {k:2, a:4} | {k:1, a:-3} | {k:1, a:-19} | {k:1, a:8}", plan,
+            third + " | " + second + " | " + first);
+        // A key that looks like what another element's value says is itself.
+        done("{a:1} | {a:2}", "{$group:{by:{$sum:" + MOST + "}}}", "{by:{$sum:" + MOST + "}}");
+        done("{a:1} | {a:2}", "{$group:{by:{$sum:\"$a\"}, s:{$sum:\"$a\"}}}", "{by:{$sum:\"$a\"}, s:3L}");
+        done("{a:1} | {a:2}", "{$group:{by:{$count:1}}}", "{by:{$count:1}}");
+        // Rows that are worked out, more of them than a belt has bytes: 60 of 321 bytes for each element and the key.
+        Run x = numbered(60);
+        due("60", stage(x, "{$project:{b:true, r:[{v:" + text(150) + "}, {v:" + text(149) + "}]}}"), 60);
+        String row = "[" + text(150) + ", " + text(149) + "]";
+        String many = "{$group:{by:\"$r.v\", f:{$first:\"$r.v\"}, z:{$last:\"$r.v\"}, l:{$min:\"$r.v\"}, g:{$max:\"$r.v\"}, "
+            + "s:{$sum:\"$r.v\"}, t:{$sum:\"$b\"}}}";
+        due("60 of one key", stage(x, many), 1);
+        due("60 of one key", show(x, 0),
+            "{by:" + row + ", f:" + row + ", z:" + row + ", l:" + row + ", g:" + row + ", s:0L, t:570L}");
+        // A key that is such a row stays what it is while others are worked out.
+        done("{k:[{v:1}], q:[{w:7}, {w:8}]} | {k:[{v:2}], q:[{w:9}]} | {k:[{v:1L}], q:[]}",
+            "{$group:{by:\"$k.v\", p:{$push:\"$q.w\"}, f:{$first:\"$q.w\"}, z:{$last:\"$q.w\"}, l:{$min:\"$q.w\"}}}",
+            "{by:[1], p:[[7, 8], []], f:[7, 8], z:[], l:[]} | {by:[2], p:[[9]], f:[9], z:[9], l:[9]}");
+        Run y = numbered(100);
+        due("100", stage(y, "{$project:{b:true, r:[{v:" + text(150) + "}, {v:\"$\"}, {v:" + text(140) + "}]}}"), 100);
+        due("100 in 20 groups", stage(y, "{$group:{by:\"$b\", f:{$first:\"$r.v\"}, z:{$last:\"$r.v\"}, g:{$max:\"$r.v\"}}}"), 20);
+        String rows = "[" + text(150) + ", \"$\", " + text(140) + "]";
+        due("100 in 20 groups", Tree.show(Tree.decode(bytes(y, 0, 19))), "{by:19, f:" + rows + ", z:" + rows + ", g:" + rows + "}");
+    }
+
     private static void groupOthers() {
         says("for each other element .. what its value says, a document with one element: $count ..; or another one");
         for (String value : KINDS) {
@@ -288,8 +334,8 @@ public final class StageBoundaryTest extends Bench {
             fault(2, "{a:5}", "{$group:{by:1, m:{$sum:1}, n:" + value + "}}");
         }
         for (String no : new String[] {"$avg", "count", "sum", "$", "", "$counts", "$coun", "$Sum", "$summ", "$su", "$mi", "$mini",
-                "$maxi", "$firs", "$firsts", "$las", "$lasts", "$pus", "$pushs", "$addToSe", "$addToSets", "$addtoset", "min", "$$min",
-                "by", "$project"}) {
+                "$maxi", "$firs", "$firsts", "$las", "$lasts", "$pus", "$pushs", "$addToSe", "$addToSets", "$addtoset", "min",
+                "$$min", "by", "$project"}) {
             fault(2, "{a:5}", "{$group:{by:1, n:{\"" + no + "\":null}}}");
             fault(2, "{a:5}", "{$group:{by:1, n:{\"" + no + "\":\"$a\"}}}");
         }
@@ -301,6 +347,15 @@ public final class StageBoundaryTest extends Bench {
             fault(2, "{a:5}", "{$group:{by:1, n:[{" + yes + ":\"$a\"}]}}");
         }
         fault(2, "{a:5}", "{$group:{by:1, n:{$count:null, $sum:1}}}");
+        // As many elements as a stage holds.
+        for (int count : new int[] {3, 4, 7, 8, 15, 16, 110}) {
+            String plan = "{$group:{by:1, " + elements(count).replace("null", "{$min:null}") + ", ";
+            done("{a:5}", plan + "a:{$max:\"$a\"}}}", "{by:1, " + elements(count) + ", a:5}");
+            fault(2, "{a:5}", plan + "a:{$max:\"$a\", x:1}}}");
+            fault(2, "{a:5}", plan + "$a:{$max:\"$a\"}}}");
+            fault(3, "{a:5}", plan + "a:{$max:\"$\"}}}");
+            fault(4, "{a:" + MOST + "} | {a:1}", plan + "a:{$sum:\"$a\"}}}");
+        }
     }
 
     private static void groupCount() {
@@ -371,7 +426,8 @@ public final class StageBoundaryTest extends Bench {
         fault(4, "{k:1, a:1} | {k:2, a:" + MOST + "} | {k:2, a:1}", "{$group:{by:\"$k\", s:{$sum:\"$a\"}}}");
         fault(4, "{k:2, a:" + MOST + "} | {k:2, a:1} | {k:1, a:1}", "{$group:{by:\"$k\", s:{$sum:\"$a\"}}}");
         fault(4, "{a:" + MOST + "} | {a:1}", "{$group:{by:1, n:{$count:null}, r:{$sum:1}, s:{$sum:\"$a\"}}}");
-        done("{k:1, a:" + MOST + "} | {k:2, a:1}", "{$group:{by:\"$k\", s:{$sum:\"$a\"}}}", "{by:1, s:" + MOST + "} | {by:2, s:1L}");
+        done("{k:1, a:" + MOST + "} | {k:2, a:1}", "{$group:{by:\"$k\", s:{$sum:\"$a\"}}}",
+            "{by:1, s:" + MOST + "} | {by:2, s:1L}");
     }
 
     private static void groupLeastAndGreatest() {
@@ -398,7 +454,8 @@ public final class StageBoundaryTest extends Bench {
         done("{a:5} | {a:6} | {b:1}", plan, "{by:1, x:5, y:null}");
         done("{b:1} | {a:6} | {b:1}", plan, "{by:1, x:null, y:null}");
         done("{b:1}", plan, "{by:1, x:null, y:null}");
-        done("{k:1, a:1} | {k:2, a:2} | {k:1, a:3} | {k:2}", plan.replace("by:1", "by:\"$k\""), "{by:1, x:1, y:3} | {by:2, x:2, y:null}");
+        done("{k:1, a:1} | {k:2, a:2} | {k:1, a:3} | {k:2}", plan.replace("by:1", "by:\"$k\""),
+            "{by:1, x:1, y:3} | {by:2, x:2, y:null}");
     }
 
     private static void groupRows() {
@@ -449,8 +506,8 @@ public final class StageBoundaryTest extends Bench {
             done(docs, "{$sort:{a:" + one + "}}", "{a:5} | {a:6} | {a:7}");
             done(docs, "{$sort:{a:-" + one + "}}", "{a:7} | {a:6} | {a:5}");
         }
-        for (String no : new String[] {"0", "2", "-2", "0L", "2L", "-2L", "4294967297L", "-4294967297L", "4294967295L", "257", "65537",
-                "2147483647", "-2147483648", MOST, LEAST, "null", "true", "false", "\"1\"", "{}", "{a:1}", "[1]", "[]"}) {
+        for (String no : new String[] {"0", "2", "-2", "0L", "2L", "-2L", "4294967297L", "-4294967297L", "4294967295L", "257",
+                "65537", "2147483647", "-2147483648", MOST, LEAST, "null", "true", "false", "\"1\"", "{}", "{a:1}", "[1]", "[]"}) {
             fault(2, docs, "{$sort:{a:" + no + "}}");
             fault(2, docs, "{$sort:{b:1, c:-1, a:" + no + "}}");
         }
@@ -458,7 +515,8 @@ public final class StageBoundaryTest extends Bench {
 
     private static void sortNext() {
         says("by the first of them, those that are the SAME there by the next one, and so on");
-        String docs = "{a:1, b:1, c:1, d:1} | {a:1L, b:1, c:1, d:0} | {a:1, b:1L, c:0, d:2} | {a:1, b:0, c:9, d:9} | {a:0, b:9, c:9, d:9}";
+        String docs = "{a:1, b:1, c:1, d:1} | {a:1L, b:1, c:1, d:0} | {a:1, b:1L, c:0, d:2} | {a:1, b:0, c:9, d:9}"
+            + " | {a:0, b:9, c:9, d:9}";
         done(docs, "{$sort:{a:1, b:1, c:1, d:1}}", "{a:0, b:9, c:9, d:9} | {a:1, b:0, c:9, d:9} | {a:1, b:1L, c:0, d:2}"
             + " | {a:1L, b:1, c:1, d:0} | {a:1, b:1, c:1, d:1}");
         done(docs, "{$sort:{a:-1, b:-1, c:-1, d:-1}}", "{a:1, b:1, c:1, d:1} | {a:1L, b:1, c:1, d:0} | {a:1, b:1L, c:0, d:2}"
@@ -482,6 +540,16 @@ public final class StageBoundaryTest extends Bench {
         }
         done("{a:1}", "{$sort:{a:1}}", "{a:1}");
         done("", "{$sort:{a:-1}}", "");
+        // All four the SAME; and a stage that sorts by more is nothing to one that sorts by less.
+        String four = "{a:1, i:1} | {a:1, i:0} | {a:1, i:2}";
+        done(four, "{$sort:{a:1, b:-1, c:1, d:-1}}", four);
+        Run y = with("{a:1, b:1} | {a:1, b:0} | {a:0, b:2}", "");
+        due("by two", stage(y, "{$sort:{a:1, b:1}}"), 3);
+        due("by two", show(y, 0), "{a:0, b:2} | {a:1, b:0} | {a:1, b:1}");
+        due("turned", stage(y, "{$sort:{b:-1}}"), 3);
+        due("turned", show(y, 0), "{a:0, b:2} | {a:1, b:1} | {a:1, b:0}");
+        due("by one", stage(y, "{$sort:{a:1}}"), 3);
+        due("by one", show(y, 0), "{a:0, b:2} | {a:1, b:1} | {a:1, b:0}");
     }
 
     // ---- $skip, $limit
@@ -519,8 +587,8 @@ public final class StageBoundaryTest extends Bench {
     private static void skipAndLimitNumbers() {
         says("$skip, $limit: a number from 0 on");
         String docs = "{a:1} | {a:2} | {a:3}";
-        for (String no : new String[] {"-1", "-1L", "-2", "-2147483648", "-2147483649L", "-4294967295L", "-4294967296L", LEAST, "null",
-                "true", "false", "\"\"", "\"1\"", "{}", "{a:1}", "[]", "[1]"}) {
+        for (String no : new String[] {"-1", "-1L", "-2", "-2147483648", "-2147483649L", "-4294967295L", "-4294967296L", LEAST,
+                "null", "true", "false", "\"\"", "\"1\"", "{}", "{a:1}", "[]", "[1]"}) {
             fault(2, docs, "{$skip:" + no + "}");
             fault(2, docs, "{$limit:" + no + "}");
             fault(2, "", "{$skip:" + no + "}");
@@ -563,7 +631,8 @@ public final class StageBoundaryTest extends Bench {
                 fault(2, "{a:5}", "{$lookup:{" + p + ", " + q + ", " + r + "}}");
             }
             String[] other = parts.clone();
-            for (String name : new String[] {"q" + p.substring(1), "x" + p, p.replace(":", "s:"), "\"\"" + p.substring(p.indexOf(':'))}) {
+            for (String name : new String[] {"q" + p.substring(1), "x" + p, p.replace(":", "s:"),
+                    "\"\"" + p.substring(p.indexOf(':'))}) {
                 other[i] = name;
                 fault(2, "{a:5}", "{$lookup:{" + String.join(", ", other) + "}}");
             }
@@ -623,6 +692,40 @@ public final class StageBoundaryTest extends Bench {
             "{a:[{x:5}, {}], o:[{b:null}, {b:5}]} | {a:[{x:5}, 6], o:[{b:5}]}");
     }
 
+    private static void lookupEachLeaf() {
+        says("that have a leaf WITH ITEMS of there that is the SAME as one of here");
+        // Each of 150 numbers of one row is found, and none that is not there.
+        for (int from = -10; from < 160; from += 20) {
+            Run x = with("", "{r:" + numbers(150) + "}");
+            StringBuilder asked = new StringBuilder();
+            for (int i = from; i < from + 20; i++) {
+                asked.append(asked.length() == 0 ? "" : ", ").append(i).append(i % 2 == 0 ? "L" : "");
+            }
+            put(x, 0, "{k:[" + asked + "]}");
+            due("20", stage(x, "{$unwind:\"$k\"}"), 20);
+            due("20", stage(x, "{$lookup:{here:\"k\", there:\"r\", as:\"o\"}}"), 20);
+            for (int k = 0; k < 20; k++) {
+                due("number " + (from + k), x.size(0, k) > 1000, from + k >= 0 && from + k < 150);
+            }
+        }
+        // One that has all of them finds each of 150 documents; another one finds none of them.
+        Run y = with("{r:" + numbers(150) + "}", "");
+        y.swap();
+        put(y, 0, "{k:" + numbers(150) + "}");
+        due("150", stage(y, "{$unwind:\"$k\"}"), 150);
+        due("150", stage(y, "{$lookup:{here:\"z\", there:\"z\", as:\"o\"}}"), -5);
+        stage(y, "{$limit:60}");
+        y.swap();
+        due("60 of 150", stage(y, "{$project:{r:" + numbers(60) + ", i:1}}"), 1);
+        due("60 of 60", stage(y, "{$lookup:{here:\"r\", there:\"k\", as:\"o\"}}"), 1);
+        Tree.Row found = (Tree.Row) Tree.decode(bytes(y, 0, 0)).get("o");
+        due("60 of 60", Tree.show(found), numbers(60).replaceAll("(\\d+)", "{k:$1}"));
+        due("none", stage(y, "{$project:{r:" + numbers(60).replaceAll("(\\d+)", "6$10") + "}}"), 1);
+        due("one of 60", stage(y, "{$lookup:{here:\"r\", there:\"k\", as:\"o\"}}"), 1);
+        found = (Tree.Row) Tree.decode(bytes(y, 0, 0)).get("o");
+        due("none of 60", Tree.show(found), "[]");
+    }
+
     private static void lookupMany() {
         says("a row of those documents of belt 1, in order");
         for (int count : new int[] {1, 9, 10, 11, 99, 100, 101, 150}) {
@@ -642,5 +745,23 @@ public final class StageBoundaryTest extends Bench {
         due("found for the last", x.size(0, 199), 19 + 8 + 3 + 19);
         due("found for the last", x.byteAt(0, 199, 42), 1);
         due("found for the first", x.byteAt(0, 0, 42), 2);
+        // As often as one likes, with as many leaves as there can be: 200 documents of 20 numbers.
+        Run y = numbered(200);
+        due("200 of 20 numbers", stage(y, "{$project:{b:true, r:" + numbers(20) + "}}"), 200);
+        y.swap();
+        put(y, 0, "{k:25}");
+        put(y, 0, "{k:-1}");
+        for (int i = 0; i < 8; i++) {
+            due("none of 4,000 leaves", stage(y, "{$lookup:{here:\"k\", there:\"r\", as:\"o\"}}"), 2);
+            due("none of 4,000 leaves", show(y, 0), "{k:25, o:[]} | {k:-1, o:[]}");
+        }
+        put(y, 1, "{r:-1}");
+        due("no room for one more", y.many(1, 0), 200);
+        y.swap();
+        due("one less", stage(y, "{$limit:199}"), 199);
+        put(y, 0, "{r:[-1, 26]}");
+        y.swap();
+        due("one of 4,000 leaves", stage(y, "{$lookup:{here:\"k\", there:\"r\", as:\"o\"}}"), 2);
+        due("one of 4,000 leaves", show(y, 0), "{k:25, o:[]} | {k:-1, o:[{r:[-1, 26]}]}");
     }
 }
