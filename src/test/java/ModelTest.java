@@ -23,7 +23,7 @@ public final class ModelTest {
     private String last = "";
 
     public static void main(String[] args) {
-        int runs = args.length > 0 ? Integer.parseInt(args[0]) : 1500;
+        int runs = args.length > 0 ? Integer.parseInt(args[0]) : 2000;
         ModelTest t = new ModelTest();
         for (int i = 0; i < runs && t.wrong < 10; i++) {
             t.run(i);
@@ -126,13 +126,20 @@ public final class ModelTest {
         } else if (which < 5) {
             put(below(2), document(size));
         } else if (which == 5) {
-            byte[] bytes = Tree.encode(document(size));
-            bytes[below(bytes.length)] = (byte) (once(2) ? below(20) : below(256));
+            boolean asStage = once(2);
+            byte[] bytes = Tree.encode(asStage ? aStage(size) : document(size));
+            for (int i = 1 + below(2); i > 0; i--) {
+                bytes[below(bytes.length)] = (byte) (once(2) ? below(20) : below(256));
+            }
             if (!isRoomFor(bytes)) {
                 return;
             }
             send(bytes);
-            due("put", belt.put(0, bytes.length), model.put(0, bytes.length));
+            if (asStage) {
+                due("stage", belt.stage(bytes.length), model.stage(bytes.length));
+            } else {
+                due("put", belt.put(0, bytes.length), model.put(0, bytes.length));
+            }
         } else if (which == 6) {
             byte[] bytes = Tree.encode(document(4));
             if (!isRoomFor(bytes)) {
